@@ -1627,7 +1627,7 @@ public final class YardRings {
             if (standing[ring] != other.standing[ring]) {
                 return false;
             }
-            for (int i = 0; i < standing[ring]; i++) {
+            for (int i = 0; i < standing[ring] && i < STONES_MOST; i++) {
                 int at = ring * STONES_MOST + i;
                 if (standX[at] != other.standX[at] || standY[at] != other.standY[at]) {
                     return false;
@@ -1733,7 +1733,7 @@ public final class YardRings {
             int meanY = meanOf(standY, ring);
             for (int i = -grid; i <= grid; i++) {
                 for (int k = -grid; k <= grid; k++) {
-                    for (int shape = 0; shape < SHAPES; shape = shape == 0 ? TURNS : shape + 1) {
+                    for (int shape = 0; shape < SHAPES; shape++) {
                         tryMiddle(ring, shape, meanX + i * step, meanY + k * step);
                     }
                 }
@@ -1758,7 +1758,7 @@ public final class YardRings {
         /** Keeps a middle if it fits better than those before; the round shape must be tried first at each. */
         private void tryMiddle(int ring, int shape, int x, int y) {
             int many = Math.min(standing[ring], STONES_MOST);
-            if (many <= 0) {
+            if (many <= 0 || !isShape(shape)) {
                 return;
             }
             long sum = 0;

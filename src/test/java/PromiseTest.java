@@ -11,6 +11,8 @@ public final class PromiseTest {
         newObject();
         feed();
         text();
+        textBehindText();
+        fullText();
         faultsOfLines();
         faultsOfNumbersAndLimits();
         faultsOfRules();
@@ -22,6 +24,7 @@ public final class PromiseTest {
         mode();
         fit();
         fitOfTies();
+        fitAnew();
         best();
         wellAndSpan();
         whole();
@@ -194,6 +197,70 @@ public final class PromiseTest {
         due("halves", x.count(12), 1);
     }
 
+    private static void textBehindText() {
+        YardRings x = told("land l;land m;ring a l" + SQUARE + " stone 1 1 lean 5 5 again gone;ring b m;way v 1 1 1 1 1 1 1;"
+            + "way w 1 1 1 1 1 1 1;said k a 1 blind;said j a 2;near 0;grid 2 3;slack 5;");
+        due("a second text", tell(x, "land z;ring y z stone 1 2 stone 3 4 stone 5 6 stone 7 8 stone 9 9;way q 2 1 1 1 1 1 1;"), 3);
+        int[] due = {1, 1, 1, 0, 0, 0, 0, 0, 4, 6, 300, 0, 0, 1};
+        for (int what = 0; what < due.length; what++) {
+            due("count(" + what + ") by the second text", x.count(what), due[what]);
+        }
+        due("no such land more", x.named(0, letters("l")), -1);
+        due("no such measurer more", x.named(3, letters("k")), -1);
+        due("no lean more", looked(x, 0, 4, 2), 0);
+        due("not again", looked(x, 0, 4, 4), 0);
+        due("not gone", looked(x, 0, 4, 5), 0);
+        due("one way alone", x.tells(0, 500, 1), 1);
+        due("no sayings", x.blind(500, 1), 0);
+        yes("no rule", x.near(x.best(0, 2)) == 1);
+        due("all lines told anew", tell(x, "near 1;grid 1 1;slack 1;"), 3);
+        String knots = "near " + times("not ", 39) + "1;";
+        due("forty knots", tell(x, knots), 1);
+        due("forty knots again", tell(x, knots), 1);
+        due("knots", x.count(7), 40);
+        bad("near ((1", 1, 8);
+        tell(x, "near ((((1");
+        due("brackets left open don't stay open", tell(x, "near " + times("(", 8) + "1" + times(")", 8) + ";"), 1);
+        // Bytes behind the first n are not read, even where they would belong to the last token.
+        feed(x, "land ab;");
+        due("a word cut off", x.text(6), -1);
+        due("its place", x.fault(1), 6);
+        feed(x, "slack 12;");
+        due("a number cut off", x.text(7), -1);
+        due("its place", x.fault(1), 7);
+        feed(x, "near 1<=2;");
+        due("a sign cut off", x.text(7), -1);
+        due("its place", x.fault(1), 7);
+    }
+
+    private static void fullText() {
+        StringBuilder text = new StringBuilder("land l;grid 0 1;near size<1;");
+        for (char ring = 'a'; ring < 'i'; ring++) {
+            text.append("ring ").append(ring).append(" l ").append(times("stone7 8", 10)).append(";");
+        }
+        YardRings x = told(text.toString());
+        due("fits", x.count(13), 8);
+        due("all are near", x.near(100), 255);
+        due("the last stone", looked(x, 7, 9, 1), 8);
+        due("tape the last stone", x.tape(7, 9, 5, 6), 0);
+        due("x", looked(x, 7, 9, 0), 5);
+        due("y", looked(x, 7, 9, 1), 6);
+        due("gone", x.gone(7, 9, true), 1);
+        due("is gone", looked(x, 7, 9, 5), 1);
+        due("the others stay", looked(x, 7, 8, 0), 7);
+        due("near", x.near(100), 255);
+        // Each ring is near by one place of a hundred.
+        due("all eight by nothing", x.odds(100, 8), 0);
+        YardRings y = told(text.toString().replace("size<1", "off<25"));
+        // Of a hundred places 49 are off less than 25.
+        long part = 1000000000;
+        for (int i = 0; i < 8; i++) {
+            part = part * 49 / 100;
+        }
+        due("all eight", y.odds(100, 8), part);
+        due("nine", y.odds(100, 9), -1);
+    }
+
     private static void faultsOfLines() {
         good("", 0);
         good(" \n ", 0);
@@ -240,6 +307,9 @@ public final class PromiseTest {
         bad("way w 1 1 1 1 1 1;", 1, 17);
         bad("way w 1 1 1 1 1 1 1 1;", 1, 20);
         bad("way w -1 1 1 1 1 1 1;", 1, 6);
+        bad("way w 1 -0 1 1 1 1 1;", 1, 8);
+        bad("grid -0 1;", 1, 5);
+        bad("slack -0;", 1, 6);
         bad("grid 1;", 1, 6);
         bad("slack;", 1, 5);
         String ring = "land l;ring a l";
@@ -580,6 +650,29 @@ public final class PromiseTest {
         due("its misfit", y.fit(0, 0, 0, 1), 0);
     }
 
+    private static void fitAnew() {
+        // What was fitted once must not stay where a text, a mode or a note makes it another.
+        String ring = "land l;ring a l stone 75 0 stone 0 100 stone -100 0 stone 0 -100;";
+        YardRings x = told(ring + "grid 0 1;");
+        due("the mean alone", x.fit(0, 1, 0, 2), -7);
+        tell(x, ring + "grid 7 1;");
+        due("the same stones by another grid", x.fit(0, 1, 0, 2), 0);
+        tell(x, ring + "grid 7 2;");
+        due("the same stones by another step", (x.fit(0, 1, 0, 2) + 7) % 2, 0);
+        YardRings y = told("land l;ring a l stone 10 0 lean 5 0 stone -10 0 lean 5 0 stone 0 10 lean 5 0 stone 0 -10 lean 5 0;grid 0 1;");
+        due("x by the middles", y.fit(0, 0, 0, 2), 0);
+        y.mode(2, false);
+        due("x by the inner sides", y.fit(0, 0, 0, 2), 5);
+        YardRings z = told("land l;ring a l stone 10 0 lean 0 5 stone -10 0 lean 0 5 stone 0 10 lean 0 5 stone 0 -10 lean 0 5;grid 0 1;");
+        due("y by the middles", z.fit(0, 0, 0, 3), 0);
+        z.mode(2, false);
+        due("y by the inner sides", z.fit(0, 0, 0, 3), 5);
+        YardRings w = told("land l;ring a l stone 0 1 stone 0 -1 stone 0 0;grid 0 1;");
+        due("egg north cuts towards 0", w.fit(0, 2, 1, 0), 66);
+        due("egg south cuts towards 0", w.fit(0, 2, 3, 0), 66);
+        due("flattened south cuts towards 0", w.fit(0, 1, 3, 0), 132);
+    }
+
     private static void best() {
         // A ring that is round but for its east half, which is flatter: 75 times 4 by 3 is 100.
         YardRings x = told("land l;ring a l stone 75 0 stone 0 100 stone -100 0 stone 0 -100;grid 7 1;"
@@ -674,6 +767,10 @@ public final class PromiseTest {
         due("what isn't 0", z.near(5000), 1);
         due("by a unit above twice the size", z.near(4000), 1);
         due("by a unit below that", z.near(3999), 3);
+        YardRings w = told("land l;ring a l" + SQUARE + ";ring b l stone 75 0 stone 0 100 stone -100 0 stone 0 -100;grid 7 1;near sort=1;");
+        due("by its sort", w.near(5000), 2);
+        due("odds by its sort", w.odds(100, 1), 1000000000);
+        due("odds of both", w.odds(100, 2), 0);
     }
 
     private static void rule(String rule, int due) {
@@ -704,6 +801,10 @@ public final class PromiseTest {
         rule("(5 or 0)=1", 1);
         rule("5 and 0", 0);
         rule("0 or 0", 0);
+        rule("3>3", 0);
+        rule("3<3", 0);
+        rule("999*1000*1000*1000+1000*1000*1000", 1);
+        rule("0-999*1000*1000*1000-1000*1000*1000", 1);
         rule("(2<3)+(2<=2)+(2=2)+(2<>3)+(3>=3)+(3>2)=6", 1);
         rule("(3<2)+(3<=2)+(3=2)+(2<>2)+(2>=3)+(2>3)=0", 1);
         rule("1/0", 0);
@@ -774,6 +875,8 @@ public final class PromiseTest {
         due("times goes with the size: 20000 .. 20050", told(text + "near times=200;").odds(100, 1), 510000000);
         due("size: 20000 .. 20029", told(text + "near size<2003*10;").odds(100, 1), 300000000);
         due("all sizes are from the ring's own whole one", told(text + "near size<20*1000;").odds(100, 1), 0);
+        // 20000 by 300 leaves 200: the places are of sizes 19800 .. 20099.
+        due("a size that isn't whole", told(text + "near size<2001*10;").odds(300, 1), 700000000);
         YardRings y = told("land l;ring a l" + SQUARE + ";ring b l" + SQUARE + ";ring c l;grid 0 1;near size<801*25;");
         due("both", y.odds(100, 2), 62500000);
         due("one at least", y.odds(100, 1), 437500000);
@@ -802,6 +905,9 @@ public final class PromiseTest {
         due("no sway", x.any(3000, 3990, 10, 0, 0, 50), 50);
         due("sizes below 0 are 0", told("land l;ring a l stone 0 0 stone 0 0 stone 0 0;grid 0 1;").any(9999, 9999, 1, 9999, 5, 50),
             drawnBelow(5, 50, 9999, 0, 9999, 0));
+        due("by a small unit too", told("land l;ring a l stone 0 0 stone 0 0 stone 0 0;grid 0 1;").any(100, 100, 1, 9999, 5, 50),
+            drawnBelow(5, 50, 9999, 0, 100, 0));
+        yes("some are below 0", drawnBelow(5, 50, 9999, 0, 100, 0) > 10);
         due("100 units", x.any(100, 199, 1, 0, 0, 1), 1);
         due("101 units", x.any(100, 200, 1, 0, 0, 1), -1);
         due("no draws", x.any(100, 199, 1, 0, 0, 0), -1);
@@ -918,6 +1024,8 @@ public final class PromiseTest {
         due("no units", x.apart(99, 100, 1), -1);
         due("no units", x.apart(100, 1100, 1), -1);
         due("no land has one", told("land l;ring a l;").apart(100, 200, 1), -1);
+        due("1000 units", x.apart(1000, 1999, 1), x.land(1, 1000, 1999, 1) - 1000);
+        due("the last land", told("land l;land m;ring a m" + SQUARE + ";grid 0 1;").land(1, 3000, 4000, 1000), 4000);
         due("one land has", told("land l;land m;ring a m" + SQUARE + ";").apart(100, 200, 1), 0);
     }
 
@@ -1004,6 +1112,21 @@ public final class PromiseTest {
         due("no such what", x.ahead(0, 900, 1000, 100, -1), -1);
         due("no units", x.ahead(0, 1000, 900, 100, 0), -1);
         due("no units", x.ahead(0, 100, 1100, 1, 0), -1);
+        due("1000 units: 20000 is off 2 and 1800 off 18", x.ahead(0, 1000, 1999, 1, 0), 1818);
+        YardRings y = told("land l;ring a l stone -10 0 stone 10 0 stone 5 5;grid 0 1;");
+        y.tape(0, 0, -20, 0);
+        y.tape(0, 1, 20, 0);
+        y.tape(0, 2, 7, 5);
+        due("another by x alone", y.ahead(0, 100, 200, 1, 2), 1);
+        YardRings z = told("land l;ring a l stone 0 -10 stone 0 10 stone 5 5;grid 0 1;");
+        z.tape(0, 0, 0, -20);
+        z.tape(0, 1, 0, 20);
+        z.tape(0, 2, 5, 7);
+        due("another by y alone", z.ahead(0, 100, 200, 1, 2), 1);
+        z.tape(0, 0, 0, -10);
+        z.tape(0, 1, 0, 10);
+        z.tape(0, 2, 5, 5);
+        due("the same size again does not count", z.ahead(0, 100, 200, 1, 2), 0);
         due("nothing at all", new YardRings().ahead(0, 700, 900, 100, 0), 700);
     }
 
@@ -1018,6 +1141,8 @@ public final class PromiseTest {
         x.gone(1, 0, true);
         x.gone(1, 1, true);
         due("without a fit it isn't asked for", x.next(), 0);
+        due("a great ring with a narrow span", told("land l;ring a l stone 900 0 stone 0 900 stone -900 0 stone 0 -900;ring b l"
+            + small + ";" + grid).next(), 1);
         due("a span of nothing counts too", told("land l;ring a l;ring b l" + SQUARE + ";grid 0 1;slack 0;").next(), 1);
     }
 
