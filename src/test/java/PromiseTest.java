@@ -1,12 +1,5 @@
-import java.util.NoSuchElementException;
-
 /** Each promise by hand: ordinary inputs, the edges that the document names, and wrong inputs. */
-public final class PromiseTest {
-    private static final int NO = Integer.MIN_VALUE;
-    private static final String SQUARE = " stone 100 0 stone 0 100 stone -100 0 stone 0 -100";
-    private static int wrong = 0;
-    private static int held = 0;
-
+public final class PromiseTest extends Checks {
     public static void main(String[] args) {
         newObject();
         feed();
@@ -42,84 +35,7 @@ public final class PromiseTest {
         ahead();
         next();
         count();
-        System.out.println(held + " answers as due, " + wrong + " not");
-        if (wrong != 0) {
-            System.exit(1);
-        }
-    }
-
-    private static void due(String call, long got, long want) {
-        if (got == want) {
-            held++;
-        } else {
-            wrong++;
-            System.out.println(call + " answered " + got + ", due is " + want);
-        }
-    }
-
-    private static void yes(String call, boolean got) {
-        due(call, got ? 1 : 0, 1);
-    }
-
-    private static void no(String call, boolean got) {
-        due(call, got ? 1 : 0, 0);
-    }
-
-    private static void feed(YardRings x, String text) {
-        StringBuilder s = new StringBuilder(text);
-        while (s.length() % 20 != 0) {
-            s.append('#');
-        }
-        for (int i = 0; i < s.length(); i += 20) {
-            int[] n = new int[5];
-            for (int k = 0; k < 20; k++) {
-                n[k / 4] = n[k / 4] << 8 | s.charAt(i + k);
-            }
-            x.feed(n[0], n[1], n[2], n[3], n[4]);
-        }
-    }
-
-    private static int tell(YardRings x, String text) {
-        feed(x, text);
-        return x.text(text.length());
-    }
-
-    private static YardRings told(String text) {
-        YardRings x = new YardRings();
-        if (tell(x, text) < 0) {
-            wrong++;
-            System.out.println("fault " + x.fault(0) + " at " + x.fault(1) + " in: " + text);
-        }
-        return x;
-    }
-
-    /** An exception of look() as a number that no answer can be. */
-    private static int looked(YardRings x, int ring, int stone, int what) {
-        try {
-            return x.look(ring, stone, what);
-        } catch (IndexOutOfBoundsException e) {
-            return 7001;
-        } catch (NoSuchElementException e) {
-            return 7002;
-        }
-    }
-
-    private static String times(String part, int many) {
-        return part.repeat(many);
-    }
-
-    private static void good(String text, int lines) {
-        YardRings x = new YardRings();
-        due("lines of " + text, tell(x, text), lines);
-        due("fault of " + text, x.fault(0), 0);
-        due("place of " + text, x.fault(1), -1);
-    }
-
-    private static void bad(String text, int fault, int place) {
-        YardRings x = new YardRings();
-        due("answer to " + text, tell(x, text), -1);
-        due("fault of " + text, x.fault(0), fault);
-        due("place of " + text, x.fault(1), place);
+        end();
     }
 
     // ---- 1 to 4
@@ -440,14 +356,6 @@ public final class PromiseTest {
 
     // ---- 5 to 12
 
-    private static int letters(String name) {
-        int letters = 0;
-        for (int i = 0; i < 6; i++) {
-            letters = letters << 5 | (i < name.length() ? name.charAt(i) - 'a' + 1 : 0);
-        }
-        return letters;
-    }
-
     private static void named() {
         YardRings x = told("land a;land zzzzzz;ring a a;ring ab a;way rod 1 1 1 1 1 1 1;said kim a 1;said jo a 1;said kim a 2;");
         due("land a", x.named(0, letters("a")), 0);
@@ -474,16 +382,16 @@ public final class PromiseTest {
             due("look(0, 0, " + what + ")", looked(x, 0, 0, what), first[what]);
             due("look(0, 1, " + what + ")", looked(x, 0, 1, what), second[what]);
         }
-        due("no such stone", looked(x, 0, 2, 0), 7001);
-        due("no such stone", looked(x, 0, -1, 0), 7001);
-        due("no such stone", looked(x, 1, 0, 0), 7001);
-        due("no such ring", looked(x, 2, 0, 0), 7001);
-        due("no such ring", looked(x, -1, 0, 0), 7001);
-        due("no such ring", looked(x, Integer.MAX_VALUE, NO, 0), 7001);
-        due("no such what", looked(x, 0, 0, 6), 7002);
-        due("no such what", looked(x, 0, 0, -1), 7002);
-        due("no such stone, no such what", looked(x, 0, 2, 6), 7001);
-        due("a new object", looked(new YardRings(), 0, 0, 0), 7001);
+        due("no such stone", looked(x, 0, 2, 0), NO_INDEX);
+        due("no such stone", looked(x, 0, -1, 0), NO_INDEX);
+        due("no such stone", looked(x, 1, 0, 0), NO_INDEX);
+        due("no such ring", looked(x, 2, 0, 0), NO_INDEX);
+        due("no such ring", looked(x, -1, 0, 0), NO_INDEX);
+        due("no such ring", looked(x, Integer.MAX_VALUE, NO, 0), NO_INDEX);
+        due("no such what", looked(x, 0, 0, 6), NO_ELEMENT);
+        due("no such what", looked(x, 0, 0, -1), NO_ELEMENT);
+        due("no such stone, no such what", looked(x, 0, 2, 6), NO_INDEX);
+        due("a new object", looked(new YardRings(), 0, 0, 0), NO_INDEX);
     }
 
     private static void about() {
