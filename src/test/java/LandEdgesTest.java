@@ -292,6 +292,8 @@ public final class LandEdgesTest extends Checks {
         y.tape(0, 0, 20, 0);
         due("the first stone alone is another", y.ahead(0, 1900, 2100, 100, 0), 2000);
         due("another size", y.ahead(0, 1900, 2100, 100, 2), 1);
+        due("lumps as now", y.lumps(1000) == 0 ? 1 : 0, 0);
+        due("they don't count then", y.ahead(0, 2000, 2600, 1, 0), 2000);
         // A note that a later one strikes still counts by the notes before that.
         y.strike(0);
         due("by one note it counts", y.ahead(1, 1900, 2100, 100, 2), 1);

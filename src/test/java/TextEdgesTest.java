@@ -174,30 +174,34 @@ public final class TextEdgesTest extends Checks {
             + "said k a 1 blind;said j a 2;near off<1 and 1;grid 2 3;slack 5;";
         String second = "land z;ring y z stone 5 6 stone 7 8;";
         YardRings x = told(first);
-        // Thrice, since what a text told two texts ago must not come back either.
-        for (int i = 0; i < 3; i++) {
+        for (int i = 0; i < 6; i++) {
+            // What a text told one or two texts ago must not come back either.
+            boolean isSecond = i % 3 < 2;
             x.gone(0, 0, true);
             x.gone(0, 0, true);
             yes("known by one", x.known(1));
-            due("the next text", tell(x, second), 2);
+            due("the next text", tell(x, isSecond ? second : first), isSecond ? 2 : 11);
             int[] counts = {1, 1, 0, 0, 0, 0, 0, 0, 4, 6, 300, 0, 0, 0};
+            int[] again = {2, 2, 2, 2, 2, 0, 0, 5, 2, 3, 5, 0, 0, 1};
             for (int what = 0; what < counts.length; what++) {
-                due("count(" + what + ") by it", x.count(what), counts[what]);
+                due("count(" + what + ") by it", x.count(what), isSecond ? counts[what] : again[what]);
             }
-            due("land l", x.named(0, letters("l")), -1);
-            due("ring b", x.named(1, letters("b")), -1);
-            due("way v", x.named(2, letters("v")), -1);
-            due("measurer k", x.named(3, letters("k")), -1);
+            due("land l", x.named(0, letters("l")), isSecond ? -1 : 0);
+            due("ring b", x.named(1, letters("b")), isSecond ? -1 : 1);
+            due("way w", x.named(2, letters("w")), isSecond ? -1 : 1);
+            due("measurer j", x.named(3, letters("j")), isSecond ? -1 : 1);
             for (int what = 2; what < 6; what++) {
                 due("look(0, 1, " + what + ")", looked(x, 0, 1, what), 0);
             }
-            due("two stones stand", x.about(0, 2), 2);
+            due("those that stand", x.about(0, 2), isSecond ? 2 : 4);
             due("a note", x.tape(0, 0, 9, 9), 0);
             due("is known, for all are", looked(x, 0, 0, 0), 9);
-            due("the first text again", tell(x, first), 11);
-            int[] again = {2, 2, 2, 2, 2, 0, 0, 5, 2, 3, 5, 0, 0, 1};
-            for (int what = 0; what < again.length; what++) {
-                due("count(" + what + ") by the first", x.count(what), again[what]);
+        }
+        String leaning = RING + times(" stone 1 2 lean 3 4 again gone", 3) + ";";
+        for (int i = 0; i < 4; i++) {
+            due("leaning stones", tell(x, i < 2 ? leaning : RING + times(" stone 5 6", 3) + ";"), 2);
+            for (int what = 2; what < 6; what++) {
+                due("look(0, 2, " + what + ")", looked(x, 0, 2, what), i < 2 ? what < 4 ? what + 1 : 1 : 0);
             }
         }
         due("nothing", x.text(0), 0);

@@ -480,6 +480,16 @@ public final class UnitEdgesTest extends Checks {
             int draws = i == 4 ? 1 : 50;
             due("draws by seed " + seed, x.any(700, 1690, 10, sway, seed, draws), drawn(sizes, 700, 1690, 10, sway, seed, draws));
         }
+        StringBuilder eight = new StringBuilder("land l;grid 0 1;");
+        int[] eightSizes = new int[8];
+        for (int i = 0; i < 8; i++) {
+            eight.append("ring ").append((char) ('a' + i)).append(" l").append(ring(7 + 5 * i)).append(";");
+            eightSizes[i] = 200 * (7 + 5 * i);
+        }
+        YardRings y = told(eight.toString());
+        for (int sway = 100; sway <= 9999; sway *= 3) {
+            due("eight rings by a sway of " + sway, y.any(700, 1690, 10, sway, 3, 50), drawn(eightSizes, 700, 1690, 10, sway, 3, 50));
+        }
         due("what was drawn before stays behind", x.any(1000, 1000, 1, 0, 5, 50), 50);
         due("no rings", new YardRings().any(700, 1690, 10, 9999, 1, 50), 50);
     }
@@ -549,6 +559,9 @@ public final class UnitEdgesTest extends Checks {
         due("lumps of the great one alone", x.chosen(egg, 0), 4000 * Math.min(rest, egg - rest) / egg);
         x.mode(0, true);
         due("by halves of twice that", x.chosen(2 * egg, 1), 2);
+        YardRings y = told(ONE);
+        due("lumps", y.lumps(3000), 1333);
+        due("what was asked before doesn't count", y.chosen(3000, 0), 1333);
         due("no rings", new YardRings().chosen(100, 0), 0);
         due("no rings", new YardRings().chosen(100, 1), 0);
     }
