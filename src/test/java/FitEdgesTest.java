@@ -591,8 +591,10 @@ public final class FitEdgesTest extends Checks {
         x.known(1);
         due("one of two taped: flattened west", x.best(0, 1), 2);
         x.known(-1);
+        due("both", x.best(0, 2), 800);
         x.gone(0, 3, true);
-        yes("of three others", x.best(0, 2) != 800);
+        // 412, 412 and 300 about 0, 1.
+        due("without the last one", x.fit(0, 0, 0, 0), 748);
         x.gone(0, 3, false);
         due("as before", x.best(0, 2), 800);
         tell(x, RING + OVAL + ";");

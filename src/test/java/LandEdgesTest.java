@@ -330,6 +330,9 @@ public final class LandEdgesTest extends Checks {
         due("it is near by 4000", x.ahead(3, 4000, 4000, 1, 1), 1);
         due("with d two", x.ahead(0, 4000, 4000, 1, 2), 2);
         due("one of them is near", x.ahead(0, 4000, 4000, 1, 1), 1);
+        YardRings y = told(RING + ring(10) + ";grid 0 1;near unit=2000;");
+        y.tape(0, 0, 11, 0);
+        due("by just the unit that was best then", y.ahead(0, 1999, 2001, 1, 1), 1);
         // Another place of the same size doesn't count.
         for (int stone = 0; stone < 4; stone++) {
             x.tape(0, stone, looked(x, 0, stone, 0) + 7, looked(x, 0, stone, 1) - 5);

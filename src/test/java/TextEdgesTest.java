@@ -197,6 +197,11 @@ public final class TextEdgesTest extends Checks {
             due("a note", x.tape(0, 0, 9, 9), 0);
             due("is known, for all are", looked(x, 0, 0, 0), 9);
         }
+        String ways = "way v 1 2 3 4 5 6 7;way w 7 6 5 4 3 2 1;";
+        for (int i = 0; i < 4; i++) {
+            due("two ways, then one", tell(x, i < 2 ? ways : "way v 1 2 3 4 5 6 7;"), i < 2 ? 2 : 1);
+            due("by the weights of all", x.tells(0, 100, 1), i < 2 ? 8 : 1);
+        }
         String leaning = RING + times(" stone 1 2 lean 3 4 again gone", 3) + ";";
         for (int i = 0; i < 4; i++) {
             due("leaning stones", tell(x, i < 2 ? leaning : RING + times(" stone 5 6", 3) + ";"), 2);

@@ -107,9 +107,12 @@ public final class UnitEdgesTest extends Checks {
         says("without a RULE: 8 OFF at most UNIT");
         YardRings x = told(RING + SQUARE + ";ring b l" + ring(35) + ";grid 0 1;");
         // 20000 is 3 times 6400 and 800: 8 times 800 is 6400. By 6399 it is off 803, by 6401 off 797.
-        due("8 off 1 above the unit", x.near(6399) & 1, 0);
+        due("8 off above the unit", x.near(6399) & 1, 0);
         due("8 off as the unit", x.near(6400) & 1, 1);
         due("8 off below the unit", x.near(6401) & 1, 1);
+        // 20000 is 7 times 2807 and 351, 8 times which is 2808; 50 times 399 and 50, 8 times which is 400.
+        due("8 off just 1 above the unit", x.near(2807) & 1, 0);
+        due("8 off just 1 above the unit", x.near(399) & 1, 0);
         // 7000 is 1000 below 8000.
         due("8 off below the unit", x.near(7999) & 2, 2);
         due("8 off as the unit", x.near(8000) & 2, 2);
@@ -389,10 +392,14 @@ public final class UnitEdgesTest extends Checks {
             due(rules[i], told(ONE + "near " + rules[i] + ";").odds(300, 1), (long) PARTS * due[i] / 300);
         }
         due("errors are not near", told(ONE + "near 1/(off-1)<>7;").odds(300, 1), (long) PARTS * 298 / 300);
-        YardRings x = told(ONE + "near size=199*100 or size=20*1000+49;");
-        x.mode(0, true);
         // By halves of 301 there are 150 places: 19950 .. 20099.
-        due("one of 150", x.odds(301, 1), PARTS / 150);
+        String[] halves = {"size=1995*10", "size=1994*10+9", "size=2009*10+9", "size=201*100", "size>=1995*10 and size<201*100", "times=133", "times=134"};
+        int[] dueHalves = {1, 0, 1, 0, 150, 76, 74};
+        for (int i = 0; i < halves.length; i++) {
+            YardRings x = told(ONE + "near " + halves[i] + ";");
+            x.mode(0, true);
+            due(halves[i] + " by halves", x.odds(301, 1), (long) PARTS * dueHalves[i] / 150);
+        }
         YardRings y = told(ONE);
         y.mode(0, true);
         due("by halves of 101: off 0 .. 12 of 50", y.odds(101, 1), PARTS / 50 * 25);
